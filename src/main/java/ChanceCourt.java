@@ -36,8 +36,8 @@ public final class ChanceCourt {
     private static final int NO_FAILURE = -15;
 
     private final World world;
-    private final Verdict most;
-    private final Verdict smallest;
+    private final Verdict mostVerdict;
+    private final Verdict leastVerdict;
     private final Guide guide;
     private final Horizon mostSoon;
     private final Horizon leastSoon;
@@ -48,12 +48,12 @@ public final class ChanceCourt {
 
     public ChanceCourt() {
         world = new World();
-        most = new Verdict(world, false);
-        smallest = new Verdict(world, true);
-        guide = new Guide(world, most);
+        mostVerdict = new Verdict(world, false);
+        leastVerdict = new Verdict(world, true);
+        guide = new Guide(world, mostVerdict);
         mostSoon = new Horizon(world, false);
         leastSoon = new Horizon(world, true);
-        prices = new Prices(world, most);
+        prices = new Prices(world, mostVerdict);
         holes = new Holes(world);
         twins = new Twins(world);
         shelves = new Shelf[SHELVES];
@@ -125,7 +125,7 @@ public final class ChanceCourt {
         if (!world.hasState(state) || !isHalf(what)) {
             return NO_SUCH;
         }
-        Verdict verdict = least ? smallest : most;
+        Verdict verdict = least ? leastVerdict : mostVerdict;
         int refusal = refusalOf(verdict);
         if (refusal != 0) {
             return refusal;
@@ -137,7 +137,7 @@ public final class ChanceCourt {
         if (!world.hasAct(state, 0)) {
             return NO_SUCH;
         }
-        int refusal = refusalOf(most);
+        int refusal = refusalOf(mostVerdict);
         if (refusal != 0) {
             return refusal;
         }
@@ -149,11 +149,11 @@ public final class ChanceCourt {
         if (!world.hasState(state)) {
             return NO_SUCH;
         }
-        int refusal = refusalOf(most);
+        int refusal = refusalOf(mostVerdict);
         if (refusal != 0) {
             return refusal;
         }
-        if (has(most.lost, state)) {
+        if (has(mostVerdict.lost, state)) {
             return FOURTH;
         }
         guide.settle();
@@ -164,12 +164,12 @@ public final class ChanceCourt {
         if (!world.hasAct(state, act) || !isHalf(what)) {
             return NO_SUCH;
         }
-        int refusal = refusalOf(most);
+        int refusal = refusalOf(mostVerdict);
         if (refusal != 0) {
             return refusal;
         }
-        long upper = world.actAt(state, act).mean(most.upper);
-        return lowestTerms(upper, TWELVE * most.lower, what);
+        long upper = world.actAt(state, act).mean(mostVerdict.upper);
+        return lowestTerms(upper, TWELVE * mostVerdict.lower, what);
     }
 
     public long within(int state, int k, boolean least, int what) {
@@ -207,7 +207,7 @@ public final class ChanceCourt {
         if (!world.isWhole()) {
             return SECOND;
         }
-        Verdict verdict = what < 2 ? most : smallest;
+        Verdict verdict = what < 2 ? mostVerdict : leastVerdict;
         verdict.sort();
         return what % 2 == 0 ? verdict.sure : verdict.lost;
     }
@@ -230,7 +230,7 @@ public final class ChanceCourt {
         if (!prices.told) {
             return THIRD;
         }
-        if (!has(most.sure, state)) {
+        if (!has(mostVerdict.sure, state)) {
             return FOURTH;
         }
         return lowestTerms(prices.upper[state], prices.lower, what);
@@ -317,7 +317,7 @@ public final class ChanceCourt {
             return NO_SUCH;
         }
         if (what == NUMBER || what == LONGS) {
-            int refusal = refusalOf(most);
+            int refusal = refusalOf(mostVerdict);
             if (refusal != 0) {
                 return refusal;
             }
@@ -420,7 +420,7 @@ public final class ChanceCourt {
                 shelf.holdAct(world.actAt(s, k));
                 break;
             case NUMBER:
-                shelf.holdNumber(lowestTerms(most.upper[s], most.lower, 0));
+                shelf.holdNumber(lowestTerms(mostVerdict.upper[s], mostVerdict.lower, 0));
                 break;
             case INTS:
                 shelf.holdParts(world.actAt(s, k));
@@ -428,8 +428,8 @@ public final class ChanceCourt {
             case LONGS:
                 shelf.beginRow(LONGS, 2 * world.states);
                 for (int t = 0; t < world.states; t++) {
-                    shelf.row[2 * t] = lowestTerms(most.upper[t], most.lower, 0);
-                    shelf.row[2 * t + 1] = lowestTerms(most.upper[t], most.lower, 1);
+                    shelf.row[2 * t] = lowestTerms(mostVerdict.upper[t], mostVerdict.lower, 0);
+                    shelf.row[2 * t + 1] = lowestTerms(mostVerdict.upper[t], mostVerdict.lower, 1);
                 }
                 break;
             default:
