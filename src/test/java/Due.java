@@ -20,17 +20,21 @@ final class Due {
         is(what, holds ? 1 : 0, 1);
     }
 
-    /** 1 for IllegalArgumentException, 2 for IllegalStateException. */
     static void elementThrows(ChanceCourt x, int d, int i, int want) {
-        int kind = 0;
+        is("element(" + d + ", " + i + ") throws (1 IllegalArgumentException, 2 IllegalStateException)",
+                thrown(x, d, i), want);
+    }
+
+    /** 0 if element() answers, 1 for IllegalArgumentException, 2 for IllegalStateException, more for others. */
+    static int thrown(ChanceCourt x, int d, int i) {
         try {
             x.element(d, i);
         } catch (IllegalArgumentException e) {
-            kind = e.getClass() == IllegalArgumentException.class ? 1 : 3;
+            return e.getClass() == IllegalArgumentException.class ? 1 : 3;
         } catch (IllegalStateException e) {
-            kind = e.getClass() == IllegalStateException.class ? 2 : 4;
+            return e.getClass() == IllegalStateException.class ? 2 : 4;
         }
-        is("element(" + d + ", " + i + ") throws (1 IllegalArgumentException, 2 IllegalStateException)", kind, want);
+        return 0;
     }
 
     static int wrong() {
