@@ -34,6 +34,7 @@ public final class EdgeBuildingTest {
         reachedWholeOrNot();
         reachedNeedsState();
         countKnowsFive();
+        foeActsAreCounted();
         classesNeedWhole();
         lookKnowsEleven();
         lookNeedsAct();
@@ -431,6 +432,23 @@ public final class EdgeBuildingTest {
         for (int what = 0; what <= 4; what++) {
             Edge.beside("count(" + what + ")", x.count(what), want[what]);
         }
+    }
+
+    private static void foeActsAreCounted() {
+        Edge.sentence("19", "3 FOE ACTS");
+        ChanceCourt x = Build.states(10);
+        Edge.beside("none", x.count(3), 0);
+        for (int i = 0; i < 40; i++) {
+            x.act(i % 10, i % 10 == 4 ? STOP : FOE, 0);
+        }
+        Edge.met("all but those of STATE 4", x.count(3), 36);
+        Edge.beside("all ACTS", x.count(1), 40);
+        x.drop(0);
+        Edge.met("one of STATE 0 went", x.count(3), 35);
+        x.drop(4);
+        Edge.beside("one of STATE 4 went", x.count(3), 35);
+        x.drop(9);
+        Edge.met("one of STATE 9 went", x.count(3), 34);
     }
 
     private static void classesNeedWhole() {

@@ -24,6 +24,8 @@ public final class EdgeStayTest {
         sameCost();
         foeOrNot();
         partInAll();
+        costAndPartAndFoeTogether();
+        partsOfTheLastClasses();
         theOtherWayRound();
         tillNothingChanges();
         classesByLeastStates();
@@ -291,6 +293,60 @@ public final class EdgeStayTest {
         classes(true, y, "12 of this CLASS and of that", 0, 1, 2, 3, 3);
         y.mark(12);
         classes(false, y, "12 of one CLASS", 0, 0, 1, 1, 2);
+    }
+
+    /** What differs in one thing and, by just as much, in another is no twin, either. */
+    private static void costAndPartAndFoeTogether() {
+        Edge.sentence("Terms", "of the same COST, KIND FOE or not, and PART in all of each CLASS");
+        int[] costs = {1, 2, 4, 8, 15, 30, 60, 120, 240, 480, 512, 960, 1000};
+        for (int cost : costs) {
+            for (int part = 1; part <= 8; part *= 2) {
+                for (int to = 0; to < 7; to++) {
+                    ChanceCourt x = Build.states(10);
+                    for (int s = 0; s < 8; s++) {
+                        Build.act(x, s, STOP, s, s, 12);
+                    }
+                    boolean foe = to % 2 == 1 && part == 1;
+                    Build.act(x, 8, PLAIN, cost, to, part, 7, 12 - part);
+                    Build.act(x, 9, foe ? FOE : PLAIN, 0, (to + 1) % 7, part, 7, 12 - part);
+                    Edge.met("twin(9)", x.twin(9), 9);
+                    x.drop(9);
+                    Build.act(x, 9, PLAIN, cost, 7, 12 - part, to, part);
+                    Edge.beside("twin(9)", x.twin(9), 8);
+                }
+            }
+            ChanceCourt y = Build.states(3);
+            Build.act(y, 0, PLAIN, cost, 2, 12);
+            Build.act(y, 1, FOE, 0, 2, 12);
+            Edge.met("FOE for COST " + cost, y.twin(1), 1);
+        }
+        for (int part = 1; part < 12; part++) {
+            ChanceCourt z = Build.states(4);
+            Build.act(z, 2, PLAIN, 15 * part, 0, 12);
+            Build.act(z, 3, PLAIN, 0, 0, 12 - part, 1, part);
+            z.mark(2);
+            Edge.met("COST " + 15 * part + " for PART " + part, z.twin(3), 3);
+        }
+    }
+
+    private static void partsOfTheLastClasses() {
+        Edge.sentence("Terms", "PART in all of each CLASS (many CLASSES)");
+        ChanceCourt x = Build.states(10);
+        for (int s = 2; s < 10; s++) {
+            Build.act(x, s, STOP, s, s, 12);
+        }
+        Build.act(x, 0, PLAIN, 0, 8, 12);
+        Build.act(x, 1, PLAIN, 0, 9, 12);
+        classes(true, x, "12 of the last but one, 12 of the last", 0, 1, 2, 3, 4, 5, 6, 7, 8, 9);
+        x.drop(0);
+        x.drop(1);
+        // 8 and 1 against 9 would be as much where a PART had three bits alone.
+        Build.act(x, 0, PLAIN, 0, 2, 8, 4, 1, 5, 3);
+        Build.act(x, 1, PLAIN, 0, 3, 9, 5, 3);
+        classes(true, x, "8 and 1 against 9", 0, 1, 2, 3, 4, 5, 6, 7, 8, 9);
+        x.drop(1);
+        Build.act(x, 1, PLAIN, 0, 5, 3, 4, 1, 2, 8);
+        classes(false, x, "8 and 1 and 3 in another order", 0, 0, 1, 2, 3, 4, 5, 6, 7, 8);
     }
 
     private static void theOtherWayRound() {

@@ -20,6 +20,7 @@ public final class EdgeVerdictTest {
         sumNeedsAct();
         sumNeedsWhat();
         withinTenActs();
+        withinNoActs();
         withinNeedsState();
         withinNeedsWhat();
         withinNeedsWholeAlone();
@@ -275,6 +276,21 @@ public final class EdgeVerdictTest {
             Edge.met("one ACT too few", chain.within(s, 8 - s, false, 0), 0);
             Edge.beside("just as many as it takes", chain.within(s, 9 - s, false, 0), 1);
             Edge.beside("one more", chain.within(s, 10 - s, true, 0), 1);
+        }
+    }
+
+    private static void withinNoActs() {
+        Edge.sentence("12", "within k ACTS (k = 0)");
+        ChanceCourt x = Build.states(10);
+        for (int s = 0; s < 10; s++) {
+            Build.act(x, s, SURE, 0, 9 - s, 12);
+        }
+        x.mark(31);
+        for (int s = 0; s < 10; s++) {
+            Edge.met("within(" + s + ", 0, false, 0)", x.within(s, 0, false, 0), s < 5 ? 1 : 0);
+            Edge.met("within(" + s + ", 0, true, 1)", x.within(s, 0, true, 1), 1);
+            Edge.met("bound(" + s + ", 12)", x.bound(s, 12), s < 5 ? 0 : 1);
+            Edge.beside("within(" + s + ", 1, false, 0)", x.within(s, 1, false, 0), 1);
         }
     }
 

@@ -1,4 +1,7 @@
-/** All that can be seen of an object, in few calls, so that two objects can be compared within their 512. */
+/**
+ * The system, all SHELVES and one answer of each kind for each STATE: few calls, so that two objects can
+ * be compared within their 512.
+ */
 final class Picture {
     private final ChanceCourt x;
     private final StringBuilder text = new StringBuilder();
