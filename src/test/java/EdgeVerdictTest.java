@@ -21,6 +21,7 @@ public final class EdgeVerdictTest {
         sumNeedsWhat();
         withinTenActs();
         withinNoActs();
+        withinChoosesEachTime();
         withinNeedsState();
         withinNeedsWhat();
         withinNeedsWholeAlone();
@@ -292,6 +293,22 @@ public final class EdgeVerdictTest {
             Edge.met("bound(" + s + ", 12)", x.bound(s, 12), s < 5 ? 0 : 1);
             Edge.beside("within(" + s + ", 1, false, 0)", x.within(s, 1, false, 0), 1);
         }
+    }
+
+    /** The document doesn't say whether the ACT may be another at each step: here it may. */
+    private static void withinChoosesEachTime() {
+        Edge.sentence("12", "MOST, or LEAST, of coming to a MARKED STATE within k ACTS");
+        ChanceCourt x = Build.states(3);
+        Build.act(x, 0, PLAIN, 0, 1, 5, 2, 7);
+        Build.act(x, 0, PLAIN, 0, 0, 6, 1, 3, 2, 3);
+        x.mark(2);
+        Edge.beside("one ACT: the first", x.within(0, 1, false, 0), 5);
+        Edge.beside("one ACT: the first", x.within(0, 1, false, 1), 12);
+        Edge.met("two ACTS: the second, then the first", x.within(0, 2, false, 0), 11);
+        Edge.met("two ACTS: the second, then the first", x.within(0, 2, false, 1), 24);
+        Edge.beside("one ACT: the second is the LEAST", x.within(0, 1, true, 1), 4);
+        Edge.met("two ACTS: the second twice is the LEAST", x.within(0, 2, true, 0), 3);
+        Edge.met("two ACTS: the second twice is the LEAST", x.within(0, 2, true, 1), 8);
     }
 
     private static void withinNeedsState() {
