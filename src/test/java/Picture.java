@@ -29,13 +29,14 @@ final class Picture {
         for (int what = 0; what <= 4; what++) {
             add("count " + what, x.count(what));
         }
-        for (int s = 0; s < x.count(0); s++) {
+        int states = x.count(0);
+        for (int s = 0; s < states; s++) {
             for (int a = 0; x.look(s, a, 0) >= 0; a++) {
-                for (int what = 0; what < 3 + x.look(s, a, 2); what++) {
-                    add("look " + s + " " + a + " " + what, x.look(s, a, what));
-                }
-                for (int what = 7; what < 7 + x.look(s, a, 2); what++) {
-                    add("look " + s + " " + a + " " + what, x.look(s, a, what));
+                int outcomes = x.look(s, a, 2);
+                for (int what = 0; what < 7 + outcomes; what++) {
+                    if (what < 3 + outcomes || what >= 7) {
+                        add("look " + s + " " + a + " " + what, x.look(s, a, what));
+                    }
                 }
             }
         }
@@ -47,7 +48,8 @@ final class Picture {
         }
         add("holes", x.hole(0, 0));
         add("hole 0", x.hole(0, 1));
-        for (int s = 0; s < x.count(0); s++) {
+        int states = x.count(0);
+        for (int s = 0; s < states; s++) {
             add("most " + s, x.value(s, false, 0));
             add("least " + s, x.value(s, true, 0));
             add("choice " + s, x.choice(s));
@@ -63,19 +65,32 @@ final class Picture {
 
     private void shelves() {
         for (int d = 0; d < 8; d++) {
-            add("weight " + d, x.weight(d));
+            long weight = x.weight(d);
+            add("weight " + d, weight);
             add("ratio " + d, x.ratio(d, d));
             add("copy " + d, x.copy(d, 0, d, 0, 0));
-            for (int i = 0; x.weight(d) == -12 && Due.thrown(x, d, i) == 0; i++) {
-                add("element " + d + " " + i, x.element(d, i));
+            if (weight == -12) {
+                elements(d);
             }
         }
     }
 
+    private void elements(int d) {
+        for (int i = 0; i <= 60; i++) {
+            try {
+                add("element " + d + " " + i, x.element(d, i));
+            } catch (IllegalStateException e) {
+                return;
+            }
+        }
+    }
+
+    /** A drop() that would be refused isn't asked for: if that changed something, it would hide it. */
     private void marks() {
-        for (int s = 0; s < x.count(0); s++) {
-            while (x.drop(s) > 0) {
-                continue;
+        int states = x.count(0);
+        for (int s = 0; s < states; s++) {
+            for (int a = 0; a < 4 && x.look(s, 0, 0) >= 0; a++) {
+                x.drop(s);
             }
         }
         add("marks", x.sets(0));

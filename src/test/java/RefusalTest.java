@@ -160,6 +160,8 @@ public final class RefusalTest {
     private static void dropAndMark() {
         refused("drop: STATE", RefusalTest::crowded, x -> x.drop(6), -1);
         refused("drop: none", RefusalTest::crowded, x -> x.drop(5), -2);
+        refused("drop: STATE, WHOLE", RefusalTest::coin, x -> x.drop(3), -1);
+        refused("drop: none, WHOLE", RefusalTest::coin, x -> x.drop(2), -2);
         refused("mark: STATES that aren't there", RefusalTest::crowded, x -> x.mark(64), -1);
         refused("mark: some are, some aren't", RefusalTest::crowded, x -> x.mark(127), -1);
         refused("mark: other bits", RefusalTest::crowded, x -> x.mark(1025), -1);

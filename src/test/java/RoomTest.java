@@ -3,20 +3,28 @@ import java.lang.management.ManagementFactory;
 
 /** All calls of a run live in one room: calls make no objects, and a new object is small. */
 public final class RoomTest {
+    // An object is used for at most 512 calls: 108 build it, a round is 25.
+    private static final int ROUNDS = 13;
+    private static final int OBJECTS = 40;
     private static final ThreadMXBean THREADS = (ThreadMXBean) ManagementFactory.getThreadMXBean();
 
     public static void main(String[] args) {
-        ChanceCourt warm = build();
-        askAll(warm);
+        askAll(build());
         long before = used();
         build();
         Due.isTrue("a new object and its building stay under 64 KiB", used() - before < 65536);
-        before = used();
-        for (int i = 0; i < 512; i++) {
-            warm.mark(i % 2 == 0 ? 64 : 192);
-            askAll(warm);
+        ChanceCourt[] built = new ChanceCourt[OBJECTS];
+        for (int i = 0; i < OBJECTS; i++) {
+            built[i] = build();
         }
-        Due.isTrue("512 rounds of all calls stay under 64 KiB", used() - before < 65536);
+        before = used();
+        for (ChanceCourt x : built) {
+            for (int round = 0; round < ROUNDS; round++) {
+                x.mark(round % 2 == 0 ? 64 : 192);
+                askAll(x);
+            }
+        }
+        Due.isTrue("520 rounds of all calls stay under 64 KiB", used() - before < 65536);
         Due.end();
     }
 
